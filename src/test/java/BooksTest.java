@@ -30,6 +30,8 @@ public final class BooksTest {
         CHECK.refused(x, "minute 1,440", x.entry(0, 1, 0, 1440, 1), 1);
         CHECK.refused(x, "set 0", x.entry(0, 1, 0, 0, 0), 1);
         CHECK.refused(x, "set 16", x.entry(0, 1, 0, 0, 16), 1);
+        PollBooks y = new PollBooks();
+        CHECK.fine(y, "trade 19", y.entry(0, 1, 19, 0, 1), 0);
         for (int i = 0; i < 30; i++) {
             for (int book = 0; book < 3; book++) {
                 CHECK.fine(x, "entry", x.entry(book, 1, -1, 1439, 15), i);
@@ -83,6 +85,12 @@ public final class BooksTest {
         x.entry(2, 1, 0, 0, 1);
         x.entry(2, 1, 0, 0, 1);
         CHECK.fine(x, "book 0 is empty", x.join(2), 20);
+        PollBooks late = new PollBooks();
+        late.entry(1, name("hall"), -1, 600, 1);
+        late.entry(2, name("hole"), -1, 600, 1);
+        late.entry(0, name("hall"), -1, 600, 2);
+        CHECK.fine(late, "book 1 was there first", late.join(1), 4);
+        CHECK.fine(late, "book 2 was there first", late.join(2), 10);
         CHECK.refused(x, "join 0", x.join(0), 1);
         CHECK.refused(x, "join 3", x.join(3), 1);
         CHECK.refused(x, "join -1", x.join(-1), 1);
@@ -187,6 +195,11 @@ public final class BooksTest {
         x.person(name("smith"), 4, 0);
         CHECK.fine(x, "nearest with 2", x.who(0), 3);
         CHECK.fine(x, "nearest with 0", x.who(1), 3);
+        PollBooks longer = new PollBooks();
+        longer.entry(0, name("abcdefgh"), -1, 600, 1);
+        longer.person(name("abcdefxx"), 0, 0);
+        longer.person(name("abcdefgx"), 0, 0);
+        CHECK.fine(longer, "by the last of eight letters", longer.who(0), 1);
         CHECK.refused(x, "who(2)", x.who(2), 1);
         CHECK.refused(x, "who(-1)", x.who(-1), 1);
         x.entry(1, name("smith"), 3, 600, 1);

@@ -43,6 +43,9 @@ public final class CoachesTest {
         CHECK.fine(x, "1 mile", x.miles(0, 1, 1));
         go(x, 0, 5, 2, 1);
         go(x, 6, 5, 20, 1);
+        PollBooks first = waiting(7, 0, 1);
+        first.miles(0, 2, 3);
+        go(first, 6, 5, 2 * 10 + 10 + 3 + 10, 2);
     }
 
     private static void refusesInOrder() {
@@ -69,6 +72,8 @@ public final class CoachesTest {
         x.write(0, 6, 100);
         CHECK.fine(x, "100", x.coaches(0, 0, 1), 2000);
         CHECK.fine(x, "its own does not count", x.coaches(6, 0, 1), 0);
+        x.write(0, 0, 101);
+        CHECK.refused(x, "101 in the first", x.coaches(6, 0, 1), 1);
     }
 
     private static void fullCoachesFirst() {

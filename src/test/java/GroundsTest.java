@@ -151,5 +151,14 @@ public final class GroundsTest {
         CHECK.fine(x, "against", x.against(2, 3));
         turn(x, 3, -1, 0, 0);
         turn(x, 0, 0, 1, 0);
+        // what cannot be with GROUND 0 can be with 1, its neighbour, and with 2
+        PollBooks y = house(1, 1, 2, 2, 8);
+        for (int e = 0; e < 4; e++) {
+            y.ground(false, e);
+        }
+        y.against(0, 3);
+        y.against(1, 3);
+        y.against(0, 2);
+        turn(y, 3, 2, 2, 3);
     }
 }

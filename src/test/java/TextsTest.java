@@ -70,6 +70,9 @@ public final class TextsTest {
     }
 
     private static void faultsAlongTheText() {
+        bad(";".repeat(600), 2, 0);
+        bad("a: may " + "(".repeat(593), 5, 13);
+        bad("a: may 1" + "+1".repeat(296), 2, 600);
         bad("A: may day > 1;", 1, 0);
         bad("a: may day > 1,", 1, 14);
         bad("a\t: may day > 1;", 1, 1);
@@ -133,6 +136,7 @@ public final class TextsTest {
 
     private static void textsThatCanBe() {
         good("", 0);
+        good("a:bar 1" + "*1".repeat(294) + "=1 ; ", 1);
         good(" \n \n", 0);
         good("a:may day<1;", 1);
         good("a:may(day)<1and(1)>2or 3=3;", 1);
@@ -380,6 +384,9 @@ public final class TextsTest {
         test("2 > 2", false);
         test("3 > 2", true);
         test("not 3 > 2", false);
+        test("not 1 < 2", false);
+        test("not 2 = 2", false);
+        test("1 < 2 and 2 > 1 and 2 = 2", true);
         test("not 3 < 2", true);
         test("1 = 1 or 1 = 2 and 1 = 3", true);
         test("1 = 2 and 1 = 1 or 1 = 1", true);
