@@ -2031,7 +2031,9 @@ public final class PollBooks {
             if (left < n) {
                 return false;
             }
-            Arrays.fill(drawn, false);
+            for (int i = 0; i < count; i++) {
+                drawn[i] = false;
+            }
             long lot = seed;
             for (int i = 0; i < n && left > 0; i++) {
                 lot = LOT_TIMES * lot + LOT_PLUS & LOT_MASK;
