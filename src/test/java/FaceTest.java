@@ -1,10 +1,15 @@
+import java.io.IOException;
 import java.lang.reflect.Constructor;
 import java.lang.reflect.Field;
 import java.lang.reflect.Member;
 import java.lang.reflect.Method;
 import java.lang.reflect.Modifier;
+import java.nio.file.Files;
+import java.nio.file.Path;
 import java.util.Set;
 import java.util.TreeSet;
+import java.util.regex.Matcher;
+import java.util.regex.Pattern;
 
 /** The public face is the document's and no more: rule 1 of LANGUAGE.md. */
 public final class FaceTest {
@@ -23,9 +28,10 @@ public final class FaceTest {
         "int coaches(int,int,int)", "int coachMany()"};
     private static final Check CHECK = new Check();
 
-    public static void main(String[] args) {
+    public static void main(String[] args) throws IOException {
         face();
         namesOfTheFaceAreItsOwn();
+        groups();
         CHECK.end();
     }
 
@@ -87,5 +93,27 @@ public final class FaceTest {
                 holds(m + " has a name of its own", !names.contains(m.getName()));
             }
         }
+    }
+
+    /** "Ahead of the calls .. the interface says: ---- ..": in the file, too, and the calls behind it in that order. */
+    private static void groups() throws IOException {
+        String source = Files.readString(Path.of("src/main/java/PollBooks.java"));
+        Matcher m = Pattern.compile("Ahead of the calls (.*) the interface says: (---- .*)\\.\n")
+            .matcher(Files.readString(Path.of("../shared/DOC.md")));
+        int at = 0;
+        int many = 0;
+        while (m.find()) {
+            int group = source.indexOf("    // " + m.group(2) + "\n", at);
+            holds(m.group(2) + " is told", group > at);
+            at = group;
+            for (String name : m.group(1).replace("`", "").split(", ")) {
+                Matcher call = Pattern.compile("\n    public \\w+ " + name + "\\(").matcher(source);
+                boolean found = call.find(Math.max(0, at));
+                holds(name + " stands in its order", found);
+                at = found ? call.start() : at;
+                many++;
+            }
+        }
+        CHECK.due("calls in groups", many, FACE.length - 1);
     }
 }

@@ -1,36 +1,45 @@
 import java.io.IOException;
 import java.nio.file.Files;
 import java.nio.file.Path;
-import java.util.Set;
-import java.util.TreeSet;
+import java.util.Map;
+import java.util.TreeMap;
+import java.util.regex.Pattern;
 
-/** The list of sentences and tests is true: each sentence stands in the document where the list says, each test is run. */
+/**
+ * The list of sentences and tests is true: each sentence stands in the document where the list says, each test is run, and
+ * the list has all words of the Terms and of the promises.
+ */
 public final class SentencesTest {
     private static final Path LIST = Path.of("src/test/SENTENCES.txt");
     private static final Path TESTS = Path.of("src/test/java");
     private static final Path DOCUMENT = Path.of("../shared/DOC.md");
     private static final int PROMISES = 46;
+    /** What stands around the sentences: heads, marks of blocks and parts, signatures, and what FaceTest holds. */
+    private static final String[] FRAME = {"^## Terms ", "^## Promise \\d+: [^`]*`[^`]*`:", "```text", "```", "==== \\d\\.",
+        "Ahead of the calls .* ---- MEMBERS, COACHES\\."};
     private static final Check CHECK = new Check();
 
     public static void main(String[] args) throws IOException {
         String document = plain(Files.readString(DOCUMENT));
-        Set<String> told = new TreeSet<>();
+        Map<String, StringBuilder> left = new TreeMap<>();
+        left.put("Terms", new StringBuilder(part(document, "Terms")));
+        for (int promise = 1; promise <= PROMISES; promise++) {
+            left.put("Promise " + promise, new StringBuilder(part(document, "Promise " + promise)));
+        }
         for (String line : Files.readAllLines(LIST)) {
             if (!line.isEmpty() && !line.startsWith("#")) {
                 String[] parts = line.split(" \\| ");
                 CHECK.due("three parts: " + line, parts.length, 3);
-                told.add(parts[0]);
-                String where = part(document, parts[0]);
-                CHECK.due(parts[0] + " says: " + parts[1], where.contains(plain(parts[1])), true);
+                strike(left.get(parts[0]), part(document, parts[0]), plain(parts[1]), parts[0]);
                 for (String test : parts[2].split(" ")) {
                     isRun(test);
                 }
             }
         }
-        for (int promise = 1; promise <= PROMISES; promise++) {
-            CHECK.due("a line of Promise " + promise, told.contains("Promise " + promise), true);
+        for (Map.Entry<String, StringBuilder> e : left.entrySet()) {
+            String words = e.getValue().toString().replaceAll("[\\W_]+", " ").strip();
+            CHECK.due("words of " + e.getKey() + " that no line has: " + words, words.isEmpty(), true);
         }
-        CHECK.due("lines of Terms", told.contains("Terms"), true);
         CHECK.end();
     }
 
@@ -38,7 +47,16 @@ public final class SentencesTest {
         return text.replaceAll("\\s+", " ");
     }
 
-    /** What stands under a heading, up to the next one. */
+    /** Strikes some words out of what is left of a part, by blanks. */
+    private static void strike(StringBuilder left, String part, String words, String where) {
+        int from = part.indexOf(words);
+        CHECK.due(where + " says: " + words, from >= 0, true);
+        for (int i = Math.max(0, from); i < from + words.length(); i++) {
+            left.setCharAt(i, ' ');
+        }
+    }
+
+    /** What stands under a heading, up to the next one; what frames it is blank. */
     private static String part(String document, String heading) {
         String head = heading.equals("Terms") ? "## Terms " : "## " + heading + ":";
         int from = document.indexOf(head);
@@ -47,7 +65,11 @@ public final class SentencesTest {
             return "";
         }
         int to = document.indexOf(" ## ", from + 1);
-        return document.substring(from, to < 0 ? document.length() : to);
+        String part = document.substring(from, to < 0 ? document.length() : to);
+        for (String frame : FRAME) {
+            part = Pattern.compile(frame).matcher(part).replaceAll(m -> " ".repeat(m.group().length()));
+        }
+        return part;
     }
 
     /** A test is a method that the main of its class calls. */
